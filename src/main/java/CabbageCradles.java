@@ -13,10 +13,19 @@ public final class CabbageCradles {
     private static final int SHEETS = 4;
     private static final int FORMS = 3;
     private static final int MOST_ITEMS = 60;
+    private static final int LEAST_INT = 0x80000000;
+    private static final long LEAST_LONG = 0x8000000000000000L;
 
     private static final int SAVOY = 0, POINTED = 2, ANY = 3;
     private static final int SORTS = 3;
     private static final int[] RIPE_DAYS = {3, 5, 1};
+
+    /** Up to two of eight rabbits, as bits: the fewest first, of as many the least row first. */
+    private static final int[] KEPT_OFF = {
+        0, 1, 2, 4, 8, 16, 32, 64, 128,
+        3, 5, 9, 17, 33, 65, 129, 6, 10, 18, 34, 66, 130, 12, 20, 36, 68, 132,
+        24, 40, 72, 136, 48, 80, 144, 96, 160, 192
+    };
 
     private static final int GREEN = 0, RIPE = 1, LIFTED = 2, LOST = 3, BOLTED = 4;
 
@@ -53,35 +62,35 @@ public final class CabbageCradles {
     public int type(int text, int b) {
         if (isOff(text, 2) || isOff(b, 256)) return BAD;
         chances.forgetAll();
-        return texts[text].bytes.add(b);
+        return texts[text].append(b);
     }
 
     public int wipe(int text) {
         if (isOff(text, 2)) return BAD;
         chances.forgetAll();
-        return texts[text].bytes.clear();
+        return texts[text].empty();
     }
 
     public int undo(int text) {
         if (isOff(text, 2)) return BAD;
         chances.forgetAll();
-        return texts[text].bytes.dropLast();
+        return texts[text].dropLast();
     }
 
     public int fault(int text) {
         if (isOff(text, 2)) return BAD;
-        return texts[text].firstFault();
+        return texts[text].fault;
     }
 
     public int head(int head, int what) {
         if (isNoHead(head) || isOff(what, 2)) return BAD;
-        return what == 0 ? texts[0].letterOf(head) : texts[0].dayOf(head);
+        return what == 0 ? texts[0].kinds[head] : texts[0].days[head];
     }
 
     public int couple(int couple, int what) {
         if (isNoCouple(couple) || isOff(what, 3)) return BAD;
-        if (what == 0) return texts[1].letterOf(couple);
-        return what == 1 ? texts[1].dayOf(couple) : texts[1].lengthOf(couple);
+        if (what == 0) return texts[1].kinds[couple];
+        return what == 1 ? texts[1].days[couple] : texts[1].lengths[couple];
     }
 
     public int weather(int what, int day) {
@@ -171,6 +180,7 @@ public final class CabbageCradles {
 
     public int keep(int couple, int i) {
         if (isNoCouple(couple) || i < NONE || i > 1) return BAD;
+        layOut();
         int kept = fewestKeptOff(couple);
         if (kept == NONE) return NONE;
         if (i == NONE) return Integer.bitCount(kept);
@@ -303,11 +313,11 @@ public final class CabbageCradles {
     }
 
     public int get(int s, int form, int i) {
-        if (isOff(s, SHEETS) || isOff(form, FORMS)) return Integer.MIN_VALUE;
+        if (isOff(s, SHEETS) || isOff(form, FORMS)) return LEAST_INT;
         int wrong = whatIsWrong(sheets[s], form, i);
         if (wrong == 0) return sheets[s].itemAt(i);
         found(wrong);
-        return Integer.MIN_VALUE;
+        return LEAST_INT;
     }
 
     public int copy(int s, int i, int t, int j, int n) {
@@ -333,8 +343,8 @@ public final class CabbageCradles {
 
     public int count(int what) {
         switch (what) {
-            case 0: return texts[0].parts();
-            case 1: return texts[1].parts();
+            case 0: return texts[0].parts;
+            case 1: return texts[1].parts;
             case 2: return texts[0].bytes.size;
             case 3: return texts[1].bytes.size;
             case 4: return frosts.size + wets.size;
@@ -350,9 +360,9 @@ public final class CabbageCradles {
         long h = 17;
         for (int what = 0; what < 8; what++) h = 31 * h + count(what);
         h = 31 * (31 * h + fault(0)) + fault(1);
-        int heads = texts[0].parts();
+        int heads = texts[0].parts;
         for (int i = 0; i < heads; i++) h = digestHead(h, i);
-        int couples = texts[1].parts();
+        int couples = texts[1].parts;
         for (int i = 0; i < couples; i++) h = digestCouple(h, i);
         h = 31 * (31 * h + children(9)) + without();
         h = 31 * (31 * h + turn(0)) + turn(1);
@@ -385,15 +395,15 @@ public final class CabbageCradles {
     }
 
     private boolean isNoHead(int head) {
-        return isOff(head, texts[0].parts());
+        return isOff(head, texts[0].parts);
     }
 
     private boolean isNoCouple(int couple) {
-        return isOff(couple, texts[1].parts());
+        return isOff(couple, texts[1].parts);
     }
 
     private static long asLong(int refusal) {
-        return Long.MIN_VALUE - refusal;
+        return LEAST_LONG - refusal;
     }
 
     private int found(int number) {
@@ -457,23 +467,13 @@ public final class CabbageCradles {
     }
 
     private int fewestKeptOff(int couple) {
-        layOut();
-        if (isMetIfKeptOff(0, couple)) return 0;
-        for (int a = 0; a < rabbits.size; a++) {
-            if (isMetIfKeptOff(1 << a, couple)) return 1 << a;
-        }
-        for (int a = 0; a < rabbits.size; a++) {
-            for (int b = a + 1; b < rabbits.size; b++) {
-                if (isMetIfKeptOff(1 << a | 1 << b, couple)) return 1 << a | 1 << b;
-            }
+        for (int kept : KEPT_OFF) {
+            if (kept >> rabbits.size != 0) continue;
+            field.letRabbitsIn(rabbits, kept);
+            walk.go(field);
+            if (walk.dayGot[couple] != NONE) return kept;
         }
         return NONE;
-    }
-
-    private boolean isMetIfKeptOff(int kept, int couple) {
-        field.letRabbitsIn(rabbits, kept);
-        walk.go(field);
-        return walk.dayGot[couple] != NONE;
     }
 
     private boolean isAsSeen() {
@@ -576,6 +576,11 @@ public final class CabbageCradles {
         final Row bytes;
         final String letters;
         final int figures;
+        final int[] kinds = new int[MOST];
+        final int[] days = new int[MOST];
+        final int[] lengths = new int[MOST];
+        int parts = 0;
+        int fault = NONE;
 
         /** There is room for just so many bytes that a ninth part cannot begin. */
         Text(String letters, int figures) {
@@ -584,7 +589,37 @@ public final class CabbageCradles {
             bytes = new Row(MOST * (figures + 2) - 1);
         }
 
-        int firstFault() {
+        int append(int b) {
+            int answer = bytes.add(b);
+            parse();
+            return answer;
+        }
+
+        int dropLast() {
+            int answer = bytes.dropLast();
+            parse();
+            return answer;
+        }
+
+        int empty() {
+            int answer = bytes.clear();
+            parse();
+            return answer;
+        }
+
+        private void parse() {
+            fault = firstFault();
+            parts = 0;
+            int end = fault == NONE ? bytes.size : 0;
+            for (int start = 0; start < end && parts < MOST; start += figures + 2) {
+                kinds[parts] = letters.indexOf((char) bytes.at(start));
+                days[parts] = 10 * figureAt(start + 1) + figureAt(start + 2);
+                lengths[parts] = figures > 2 ? figureAt(start + 3) : 0;
+                parts++;
+            }
+        }
+
+        private int firstFault() {
             int place = 0;
             for (int i = 0; i < bytes.size; i++) {
                 if (!fits(place, bytes.at(i))) return i;
@@ -600,29 +635,8 @@ public final class CabbageCradles {
             return b >= (place == 2 ? '0' : '1') && b <= '9';
         }
 
-        int parts() {
-            if (bytes.size == 0 || firstFault() != NONE) return 0;
-            int parts = 1;
-            for (int i = 0; i < bytes.size; i++) {
-                if (bytes.at(i) == ';') parts++;
-            }
-            return parts;
-        }
-
-        int letterOf(int part) {
-            return letters.indexOf((char) byteOf(part, 0));
-        }
-
-        int dayOf(int part) {
-            return 10 * (byteOf(part, 1) - '0') + byteOf(part, 2) - '0';
-        }
-
-        int lengthOf(int part) {
-            return byteOf(part, 3) - '0';
-        }
-
-        private int byteOf(int part, int place) {
-            return bytes.at(part * (figures + 2) + place);
+        private int figureAt(int i) {
+            return bytes.at(i) - '0';
         }
     }
 
@@ -639,20 +653,16 @@ public final class CabbageCradles {
         int frosts;
 
         void plant(Text text) {
-            heads = Math.min(text.parts(), MOST);
-            for (int h = 0; h < heads; h++) {
-                sorts[h] = text.letterOf(h);
-                dues[h] = text.dayOf(h);
-            }
+            heads = text.parts;
+            System.arraycopy(text.kinds, 0, sorts, 0, MOST);
+            System.arraycopy(text.days, 0, dues, 0, MOST);
         }
 
         void invite(Text text) {
-            couples = Math.min(text.parts(), MOST);
-            for (int c = 0; c < couples; c++) {
-                wants[c] = text.letterOf(c);
-                froms[c] = text.dayOf(c);
-                stays[c] = text.lengthOf(c);
-            }
+            couples = text.parts;
+            System.arraycopy(text.kinds, 0, wants, 0, MOST);
+            System.arraycopy(text.days, 0, froms, 0, MOST);
+            System.arraycopy(text.lengths, 0, stays, 0, MOST);
         }
 
         void freeze(Row days) {
@@ -674,7 +684,7 @@ public final class CabbageCradles {
             return froms[couple] <= day && day < froms[couple] + stays[couple];
         }
 
-        boolean wants(int couple, int sort) {
+        boolean isWantedBy(int couple, int sort) {
             return wants[couple] == ANY || wants[couple] == sort;
         }
 
@@ -700,6 +710,7 @@ public final class CabbageCradles {
     /** What comes of a field, dawn by dawn. Heads and couples of a day are held as bits. */
     private static final class Walk {
         final int[] ripe = new int[MOST];
+        final int[] bolted = new int[MOST];
         final int[] headGot = new int[MOST];
         final int[] dayGot = new int[MOST];
         final int[] goodFor = new int[MOST];
@@ -720,6 +731,7 @@ public final class CabbageCradles {
 
         private void clear() {
             Arrays.fill(ripe, NONE);
+            Arrays.fill(bolted, NONE);
             Arrays.fill(headGot, NONE);
             Arrays.fill(dayGot, NONE);
             Arrays.fill(goodFor, 0);
@@ -737,7 +749,8 @@ public final class CabbageCradles {
             ofSort[ANY] |= 1 << head;
             ripe[head] = field.firstRipe(head);
             if (ripe[head] == NONE) return;
-            int end = Math.min(ripe[head] + RIPE_DAYS[sort], field.rabbitDays[head]);
+            bolted[head] = ripe[head] + RIPE_DAYS[sort];
+            int end = Math.min(bolted[head], field.rabbitDays[head]);
             for (int day = ripe[head]; day < end && day < DAYS; day++) ripeOn[day] |= 1 << head;
         }
 
@@ -776,13 +789,13 @@ public final class CabbageCradles {
             if (field.rabbitDays[head] <= day) return LOST;
             if (ripe[head] == NONE) return field.firstFrost() <= day ? LOST : GREEN;
             if (day < ripe[head]) return GREEN;
-            return day < ripe[head] + RIPE_DAYS[field.sorts[head]] ? RIPE : BOLTED;
+            return day < bolted[head] ? RIPE : BOLTED;
         }
 
         int firstOutOfTurn(Field field) {
             int first = NONE;
             for (int c = 0; c < field.couples; c++) {
-                if (dayGot[c] == NONE || !isOutOfTurn(field, c)) continue;
+                if (headGot[c] == NONE || !isOutOfTurn(field, c)) continue;
                 if (first == NONE || dayGot[c] < dayGot[first]) first = c;
             }
             return first;
@@ -792,7 +805,7 @@ public final class CabbageCradles {
             int sort = field.sorts[headGot[couple]];
             for (int other = 0; other < field.couples; other++) {
                 if (field.froms[other] < field.froms[couple] && field.comesOn(other, dayGot[couple])
-                        && field.wants(other, sort) && isStillWithout(other, couple)) {
+                        && field.isWantedBy(other, sort) && isStillWithout(other, couple)) {
                     return true;
                 }
             }
