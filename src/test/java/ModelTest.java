@@ -38,10 +38,10 @@ public final class ModelTest {
         for (int i = 0; i < CALLS && check.isClean(); i++) {
             int which = random.nextInt(100) < 3 ? random.nextInt(3) : 3 + random.nextInt(31);
             call(which, number(which, 0), number(which, 1), number(which, 2), number(which, 3), number(which, 4));
-            if (random.nextInt(40) == 0) retype(lastDay);
+            if (random.nextInt(40) == 0) retype(random.nextInt(2), lastDay);
             if (random.nextInt(40) == 0) seeWhatHappened();
         }
-        if (run % 4 == 0) call(34);
+        if (run % 4 == 0) endWhole(lastDay);
     }
 
     private String parts(int text, int lastDay) {
@@ -56,10 +56,16 @@ public final class ModelTest {
         return parts.toString();
     }
 
-    private void retype(int lastDay) {
-        int text = random.nextInt(2);
+    private void retype(int text, int lastDay) {
         call(1, text);
         typeAll(text, parts(text, lastDay));
+    }
+
+    /** Texts that random bytes have broken would leave little to digest. */
+    private void endWhole(int lastDay) {
+        retype(0, lastDay);
+        retype(1, lastDay);
+        call(34);
     }
 
     private void typeAll(int text, String all) {

@@ -507,6 +507,25 @@ public final class PromisesTest {
         x.rabbit(0, 0);
         due(6, x.keep(0, 0));
         due(7, x.keep(0, 1));
+        for (int a = 0; a < 8; a++) {
+            for (int b = a + 1; b < 8; b++) keepingOnePair(a, b);
+        }
+    }
+
+    /** Rabbits a and b are at head 0, all others at head 1, where there are too many. */
+    private void keepingOnePair(int a, int b) {
+        CabbageCradles x = field("s04;s04", "s049");
+        for (int i = 0; i < 8; i++) x.rabbit(2, i == a || i == b ? 0 : 1);
+        due(2, x.keep(0, NONE));
+        due(a, x.keep(0, 0));
+        due(b, x.keep(0, 1));
+        // a like pair at head 1, of the least and the greatest that are left
+        int least = a > 0 ? 0 : b > 1 ? 1 : 2;
+        int last = b < 7 ? 7 : a < 6 ? 6 : 5;
+        x = field("s04;s04", "s049");
+        for (int i = 0; i < 8; i++) x.rabbit(2, i == a || i == b ? 0 : i == least || i == last ? 1 : 5);
+        due(Math.min(a, least), x.keep(0, 0));
+        due(a < least ? b : last, x.keep(0, 1));
     }
 
     private void sowing() {
@@ -530,6 +549,10 @@ public final class PromisesTest {
         x.weather(0, 3);
         due(25, x.sow(0, 0));
         due(20, x.head(0, 1));
+        // day 30 would do for both, but there is none to sow for
+        x = field("p00;r29", "a291;p299");
+        due(0, x.sow(0, 0));
+        due(1, x.sow(0, 1));
     }
 
     private void coming() {
@@ -707,10 +730,17 @@ public final class PromisesTest {
         fraction(x, 12, 1, 0, 1, 16);
         fraction(x, 8, 9, 1, 1, 1);
         fraction(x, 5, 7, 2, 0, 1);
-        x.undo(0);
-        x.type(0, '1');
-        fraction(x, 1, 3, 0, 50625, 65536);
-        // other heads: what was known of the chances before is no more
+        // other heads, couples, rabbits: what was known of the chances is no more
+        x = field("p04", "a049");
+        fraction(x, 8, 3, 0, 1, 16);
+        typeAll(x, 0, ";r04");
+        fraction(x, 8, 3, 0, 1, 1);
+        for (int i = 0; i < 4; i++) x.undo(0);
+        fraction(x, 8, 3, 0, 1, 16);
+        x.wipe(0);
+        fraction(x, 8, 3, 0, 0, 1);
+        x.wipe(1);
+        typeAll(x, 1, "s009");
         x.wipe(0);
         typeAll(x, 0, "p00;r00");
         fraction(x, 1, 3, 0, 0, 1);
@@ -928,5 +958,34 @@ public final class PromisesTest {
         x.lose(0);
         x.sheet(1, 1, 1);
         due(h, x.digest());
+        for (int d = 7; d < 12; d++) {
+            String day = d < 10 ? "0" + d : "" + d;
+            x = field("s04;p" + day + ";r06;s" + day, "s099;p" + day + "1;a073;a063;r109");
+            x.weather(0, 3);
+            x.weather(1, d);
+            x.rabbit(d, 3);
+            x.rabbit(6, 2);
+            x.seen(0, 3);
+            due(digestByCalls(x), x.digest());
+        }
+    }
+
+    private long digestByCalls(CabbageCradles x) {
+        long h = 17;
+        for (int what = 0; what < 8; what++) h = 31 * h + x.count(what);
+        for (int text = 0; text < 2; text++) h = 31 * h + x.fault(text);
+        for (int i = 0; i < x.count(0); i++) {
+            int[] rows = {x.head(i, 0), x.head(i, 1), x.state(9, i), x.state(39, i), x.lifted(i, 0), x.lifted(i, 1),
+                x.lifted(i, 2), x.sow(i, 0), x.sow(i, 1), x.was(i, 0), x.was(i, 1), x.ask(i)};
+            for (int row : rows) h = 31 * h + row;
+        }
+        for (int i = 0; i < x.count(1); i++) {
+            long[] rows = {x.couple(i, 0), x.couple(i, 1), x.couple(i, 2), x.gets(i, 0), x.gets(i, 1), x.gets(i, 2),
+                x.keep(i, NONE), x.keep(i, 0), x.come(i, 0), x.come(i, 1), x.chill(5, 7, i, 0), x.chill(5, 7, i, 1)};
+            for (long row : rows) h = 31 * h + row;
+        }
+        int[] rows = {x.children(9), x.without(), x.turn(0), x.turn(1), x.met(), x.never(), x.year(7, 0), x.year(7, 1)};
+        for (int row : rows) h = 31 * h + row;
+        return h;
     }
 }
