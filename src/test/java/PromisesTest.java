@@ -967,6 +967,8 @@ public final class PromisesTest {
             x.rabbit(6, 2);
             x.seen(0, 3);
             due(digestByCalls(x), x.digest());
+            x = field("r" + day, "r" + day + "1");
+            due(digestByCalls(x), x.digest());
         }
     }
 
