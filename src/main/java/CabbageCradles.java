@@ -548,7 +548,7 @@ public final class CabbageCradles {
         }
 
         int at(int i) {
-            return isOff(i, size) ? NONE : items[i];
+            return i < 0 || i >= size ? NONE : items[i];
         }
 
         int add(int item) {

@@ -30,6 +30,7 @@ public final class PlanEdgesTest {
         test.chillsBySixteenths();
         test.chillsByDays();
         test.chillsInPlaceOfFrosts();
+        test.chillsOfEachCouple();
         test.numbersOfChills();
         test.lotsOfSeeds();
         test.yearsOfAllHeads();
@@ -73,6 +74,8 @@ public final class PlanEdgesTest {
         due("by FROST a DAY later", 0, Fields.frozen(Fields.of("s10", "s101"), 9).met());
         due("by FROST a DAY longer", 1, Fields.frozen(Fields.of("s10", "s131"), 9).met());
         due("of what it WANTS", 0, Fields.of("s10;p10", "r109").met());
+        due("two who want the one savoy", 2, Fields.of("s10;r10;r10", "s101;s101;r101").met());
+        due("three who come when there is one", 2, Fields.of("p10;p20;p20", "p101;p101;p101;p201").met());
     }
 
     private void keeping(String sentence, CabbageCradles x, int couple, int... row) {
@@ -116,8 +119,19 @@ public final class PlanEdgesTest {
         for (int i = 0; i < 7; i++) x.rabbit(5, 1);
         x.rabbit(5, 0);
         keeping("the last of 8", x, 0, 7);
+        for (int a = 0; a < 8; a++) {
+            for (int b = a; b < 8; b++) keepingEachRow(a, b);
+        }
         due("RABBITS stay as they are", 8, x.count(5));
         due("RABBITS stay as they are", 3, x.state(39, 0));
+    }
+
+    /** Of 8 rabbits a and b, which may be one, are at the only head. */
+    private void keepingEachRow(int a, int b) {
+        CabbageCradles x = Fields.of("r10", "r109");
+        for (int i = 0; i < 8; i++) x.rabbit(5, i == a || i == b ? 0 : 1);
+        if (a == b) keeping("that one alone", x, 0, a);
+        else keeping("these two", x, 0, a, b);
     }
 
     private void keepingForAnother() {
@@ -141,6 +155,7 @@ public final class PlanEdgesTest {
         }
         sowing("no COUPLES", Fields.of("s15", ""), 0, 0, 0);
         sowing("nobody wants it", Fields.of("s15", "p151"), 0, 0, 1);
+        sowing("all of 8, whatever the DAY", Fields.of("s15", Fields.times(8, "p151")), 0, 0, 8);
         sowing("of 8 one", Fields.of("s15", Fields.times(8, "s151")), 0, 13, 7);
         sowing("a RABBIT on DAY 0 is ahead of all", Fields.gnawed(Fields.of("p15", "p009"), 0, 0), 0, 0, 1);
         sowing("a RABBIT on DAY 1 leaves DAY 0", Fields.gnawed(Fields.of("p15", "p009"), 0, 1), 0, 0, 0);
@@ -162,6 +177,8 @@ public final class PlanEdgesTest {
         x = Fields.of(Fields.times(7, "p10") + ";p00", Fields.times(8, "p101"));
         sowing("the last of 8 HEADS", x, 7, 10, 0);
         sowing("the first of 8 HEADS", x, 0, 10, 1);
+        // a pointed head of day 30 would leave the red one to couple 0, and be there for couple 1
+        sowing("no DAY 30 to sow for", Fields.of("p00;r29", "a291;p299"), 0, 0, 1);
     }
 
     private void coming(String sentence, CabbageCradles x, int couple, int from, int day) {
@@ -268,6 +285,24 @@ public final class PlanEdgesTest {
         CabbageCradles x = Fields.of(Fields.times(8, "r10"), Fields.times(8, "r101"));
         for (int c = 0; c < 8; c++) x.seen(c, c);
         due("all of 8", 2, x.was(7, 0));
+        for (int couple = 0; couple < 8; couple++) {
+            for (int head = 0; head < 8; head++) oneCoupleGetsOneHead(couple, head);
+        }
+    }
+
+    /** All heads are ripe on days of their own, and but for one the couples want what there is not. */
+    private void oneCoupleGetsOneHead(int couple, int head) {
+        String couples = "";
+        for (int c = 0; c < 8; c++) couples += (c == 0 ? "" : ";") + (c == couple ? "p0" + head + 1 : "s001");
+        CabbageCradles x = Fields.of("p00;p01;p02;p03;p04;p05;p06;p07", couples);
+        for (int c = 0; c < 8; c++) {
+            for (int h = 0; h <= 8; h++) {
+                x.forget();
+                x.seen(c, h);
+                boolean so = c == couple ? h == head : h == 8;
+                due("COUPLE " + c + " got " + h, so ? 1 << head : 0, x.was(head, 1) & 1 << head);
+            }
+        }
     }
 
     private void rabbitsThatNeverWere() {
@@ -282,6 +317,7 @@ public final class PlanEdgesTest {
         x = Fields.gnawed(Fields.of("r10", "r101"), 0, 5);
         x.seen(0, 0);
         due("had it not been", 1, x.never());
+        for (int i = 0; i < 8; i++) due("the " + i + "-th of 8", 1 << i, theOneThatTook(i).never());
         x.rabbit(20, 0);
         due("not the one behind it", 1, x.never());
         x.rabbit(10, 0);
@@ -293,6 +329,12 @@ public final class PlanEdgesTest {
         x = seeing(Fields.of("r10", ""), 0, 8);
         x.rabbit(0, 0);
         due("a COUPLE that there is not: never", 0, x.never());
+    }
+
+    private static CabbageCradles theOneThatTook(int i) {
+        CabbageCradles x = seeing(Fields.of("r10;r10", "r101"), 0, 0);
+        for (int k = 0; k < 8; k++) x.rabbit(5, k == i ? 0 : 1);
+        return x;
     }
 
     private void sortsThatWere() {
@@ -413,6 +455,27 @@ public final class PlanEdgesTest {
         fraction("RABBITS come", x, 0, 0, power(0, 1), power(1, 1));
         x.back(2);
         fraction("and do not", x, 0, 0, power(1, 1), power(1, 1));
+        Fields.row(x, 0, 0, 10, 0);
+        x.read(0);
+        fraction("RABBITS come from a SHEET", x, 0, 0, power(0, 1), power(1, 1));
+        x.back(2);
+        fraction("and do not", x, 0, 0, power(1, 1), power(1, 1));
+        Fields.type(x, 0, ";");
+        fraction("HEADS with a FAULT", x, 0, 0, power(0, 1), power(1, 1));
+        x.undo(0);
+        fraction("without it", x, 0, 0, power(1, 1), power(1, 1));
+        x.wipe(0);
+        fraction("no HEADS", x, 0, 0, power(0, 1), power(1, 1));
+    }
+
+    /** Each of eight heads is one couple's, and the later it is ripe the more frosts may take it. */
+    private void chillsOfEachCouple() {
+        String heads = "p00;p01;p02;p03;p04;p05;p06;p07";
+        CabbageCradles x = Fields.of(heads, "p071;p061;p051;p041;p031;p021;p011;p001");
+        for (int c = 0; c < 8; c++) {
+            due("COUPLE " + c + " of 8: above", 1, x.chill(8, 9, c, 0));
+            due("COUPLE " + c + " of 8: below", 1L << 7 - c, x.chill(8, 9, c, 1));
+        }
     }
 
     private void numbersOfChills() {

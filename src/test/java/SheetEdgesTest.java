@@ -33,6 +33,8 @@ public final class SheetEdgesTest {
         test.findings();
         test.counts();
         test.digestsThatWrap();
+        test.digestsOfFaults();
+        test.digestsOfDays();
         test.check.end();
     }
 
@@ -421,6 +423,37 @@ public final class SheetEdgesTest {
             x.seen(0, 8);
             check.holds("what is SEEN does", before != x.digest());
         }
+    }
+
+    private void digest(String sentence, CabbageCradles x) {
+        due(sentence, digestByRounds(x), x.digest());
+    }
+
+    private void digestsOfFaults() {
+        digest("HEADS without COUPLES", Fields.of("s04;r05", ""));
+        digest("COUPLES without HEADS", Fields.of("", "a053;s049"));
+        digest("more HEADS", Fields.of("s04;r05;p06", "a053"));
+        digest("more COUPLES", Fields.of("s04", "a053;s049;p061"));
+        digest("a FAULT of HEADS", Fields.of("s04;", "a053;s049"));
+        digest("a FAULT of COUPLES", Fields.of("s04;r05", "a05"));
+        digest("FAULTS of both", Fields.of("s", "a053;x"));
+    }
+
+    /** Things that come about on the very days that the digest asks for, and next to them. */
+    private void digestsOfDays() {
+        for (int day = 8; day <= 10; day++) {
+            digest("LIFTED on DAY " + day, Fields.of("p" + Fields.day(day), "p" + Fields.day(day) + 1));
+            digest("RIPE on DAY " + day, Fields.of("p" + Fields.day(day), "s001"));
+        }
+        for (int day = 37; day < 40; day++) digest("LOST on DAY " + day, Fields.gnawed(Fields.of("p10", "p101"), 0, day));
+        for (int day = 37; day < 40; day++) digest("LOST on DAY " + day, Fields.gnawed(Fields.of("p10", ""), 0, day));
+        for (int ripe = 5; ripe < 10; ripe++) {
+            digest("pointed, to be RIPE on " + ripe, Fields.of("p" + Fields.day(ripe), "p" + Fields.day(ripe) + 1));
+        }
+        CabbageCradles x = Fields.of(Fields.times(8, "r10"), "a009;a099;a189;a279");
+        check.holds("by SEED 7 there are children", x.year(7, 0) > 0 && x.year(7, 1) >= 0);
+        digest("by SEED 7 there are children", x);
+        digest("some go WITHOUT by SEED 7", Fields.of("r10", "r001;r101;r201;a009;a099;a189;a279"));
     }
 
     private static long digestByRounds(CabbageCradles x) {
