@@ -19,13 +19,25 @@ public final class RulesTest {
         + "never() was(int,int) ask(int) chill(int,int,int,int) year(int,int) sheet(int,int,int) lose(int) "
         + "lay(int,int,int,int) get(int,int,int) copy(int,int,int,int,int) write(int,int) count(int) digest()";
     private static final Set<String> LONG_ANSWERS = Set.of("chill", "digest");
+    /** What the interface says ahead of which calls. */
+    private static final String[][] HEADINGS = {
+        {"heads, couples, frosts, rabbits", "type wipe undo fault head couple weather rabbit back read"},
+        {"days", "state lifted gets children without turn"},
+        {"plans", "met keep sow come"},
+        {"seen, chills, years", "seen forget never was ask chill year"},
+        {"sheets", "sheet lose lay get copy write count digest"}};
+    private static final int CALLS = 512;
 
     public static void main(String[] args) throws Exception {
         Check check = new Check();
         lookAtFace(check);
         lookAtInnerClasses(check);
-        lookAtText(check, Files.readString(Path.of("src/main/java/CabbageCradles.java")));
+        String text = Files.readString(Path.of("src/main/java/CabbageCradles.java"));
+        lookAtText(check, text);
+        lookAtHeadings(check, text);
+        lookAtMethods(check, text);
         neverThrows(check);
+        callsMakeNothing(check);
         check.end();
     }
 
@@ -58,7 +70,11 @@ public final class RulesTest {
             && makers[0].getParameterCount() == 0);
         Set<String> constants = new TreeSet<>();
         for (Field f : face.getDeclaredFields()) {
-            if (!Modifier.isPrivate(f.getModifiers())) constants.add(f.getName());
+            if (!Modifier.isPrivate(f.getModifiers())) {
+                constants.add(f.getName());
+                check.due(f + " is public static final", Modifier.PUBLIC | Modifier.STATIC | Modifier.FINAL, f.getModifiers());
+                check.holds(f + " is an int", f.getType() == int.class);
+            }
             if (Modifier.isStatic(f.getModifiers())) check.holds(f + " is final", Modifier.isFinal(f.getModifiers()));
         }
         check.holds("the constants are " + constants, constants.equals(Set.of("NONE", "BAD", "NOT", "FULL")));
@@ -95,6 +111,35 @@ public final class RulesTest {
         check.holds("no loop without a test", !code.contains("for (;;)") && !code.contains("while (true)"));
     }
 
+    private static void lookAtHeadings(Check check, String text) {
+        String[] said = text.split("\\n    // ---- ");
+        for (int i = 0; i < HEADINGS.length; i++) {
+            boolean isThere = i + 1 < said.length && said[i + 1].startsWith(HEADINGS[i][0] + "\n");
+            check.holds("ahead of the calls the interface says: " + HEADINGS[i][0], isThere);
+            if (isThere) check.holds("behind it come " + HEADINGS[i][1], openMethods(said[i + 1]).equals(HEADINGS[i][1]));
+        }
+    }
+
+    private static String openMethods(String text) {
+        StringBuilder names = new StringBuilder();
+        Matcher m = Pattern.compile("\n    public \\w+ (\\w+)\\(").matcher(text);
+        while (m.find()) names.append(names.length() == 0 ? "" : " ").append(m.group(1));
+        return names.toString();
+    }
+
+    /** A method ends at the first closing bracket that stands as far in as the line with which it begins. */
+    private static void lookAtMethods(Check check, String text) {
+        Matcher m = Pattern.compile("(?m)^( {4,8})[\\w ]+\\[?\\]? ?\\w+\\(([^()\\n]*)\\) \\{\\n((?s:.*?))^\\1\\}$").matcher(text);
+        int methods = 0;
+        while (m.find()) {
+            methods++;
+            String first = m.group().substring(0, m.group().indexOf('\n'));
+            check.holds("some sixty lines at most: " + first, m.group(3).split("\n").length <= 60);
+            check.holds("seven parameters at most: " + first, m.group(2).split(",").length <= 7);
+        }
+        check.holds("methods were found", methods > FACE.split(" ").length);
+    }
+
     /** Every call with every mix of odd numbers, on a field that is full of everything. */
     private static void neverThrows(Check check) throws Exception {
         int[] odd = {Integer.MIN_VALUE, -61, -2, -1, 0, 1, 2, 3, 7, 8, 9, 29, 39, 40, 60, 61, 255, 256, Integer.MAX_VALUE};
@@ -107,6 +152,7 @@ public final class RulesTest {
                 int cases = n > 3 ? 20000 : (int) Math.pow(odd.length, n);
                 java.util.Random random = new java.util.Random(5);
                 for (int k = 0; k < cases; k++) {
+                    if (k % 400 == 399) x = fullField(heads);
                     for (int i = 0, rest = k; i < n; i++, rest /= odd.length) {
                         given[i] = odd[n > 3 ? random.nextInt(odd.length) : rest % odd.length];
                     }
@@ -117,6 +163,42 @@ public final class RulesTest {
                     }
                 }
             }
+        }
+    }
+
+    /** All calls of a run share one room, so what is needed is made with the object: its arrays, and no more. */
+    private static void callsMakeNothing(Check check) {
+        String heads = "s29;s00;r29;r00;p29;p00;s15;p15";
+        var counter = (com.sun.management.ThreadMXBean) java.lang.management.ManagementFactory.getThreadMXBean();
+        long me = Thread.currentThread().getId();
+        // the first look and the first calls load classes
+        counter.getThreadAllocatedBytes(me);
+        askAll(fullField(heads));
+        CabbageCradles x = fullField(heads);
+        long before = counter.getThreadAllocatedBytes(me);
+        askAll(x);
+        long made = counter.getThreadAllocatedBytes(me) - before;
+        check.holds("calls made " + made + " bytes of objects", made < CALLS);
+    }
+
+    private static void askAll(CabbageCradles x) {
+        for (int i = 0; i < 8; i++) {
+            x.digest();
+            x.chill(5, i, i, 0);
+            x.year(i, 0);
+            x.back(2);
+            x.rabbit(i, i);
+            x.forget();
+            x.seen(i, i);
+            x.undo(0);
+            x.type(0, '0' + i);
+            x.sheet(i % 4, 2, 60);
+            x.copy(2, 0, 2, 1, 9);
+            x.write(i, 3);
+            x.read(i % 4);
+            x.lay(0, 2, i, i);
+            x.get(0, 2, i);
+            x.lose(i % 4);
         }
     }
 
