@@ -338,6 +338,9 @@ public final class DayEdgesTest {
         due("WANTS another", NONE, Fields.of("s10", "a101;r092").turn(0));
         due("got one the DAY before", NONE, Fields.of("p09;p10", "p101;p092").turn(0));
         due("got one ahead of it on that DAY", NONE, Fields.of("p10;p10", "p092;p101").turn(0));
+        due("got one ahead of it on that DAY, none is the first", NONE, Fields.of("p10;p10", "s001;p092;p101").turn(0));
+        due("got one on the DAY of a third", NONE, Fields.of("p04;p04;p06", "p041;p061;p049").turn(0));
+        due("gets one behind it on that DAY, as no third does", 1, Fields.of("p04;p06;p06", "p041;p061;p052").turn(0));
         due("gets one behind it on that DAY", 0, Fields.of("p10;p10", "p101;p092").turn(0));
         due("gets one on a DAY behind", 0, Fields.of("p10;p11", "p101;p093").turn(0));
         due("of a sort that it gets, not that it WANTS", NONE, Fields.of("r10", "a101;s092").turn(0));

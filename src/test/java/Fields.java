@@ -45,6 +45,18 @@ final class Fields {
         return String.join(";", java.util.Collections.nCopies(n, part));
     }
 
+    /** A text of 0 to 8 parts, by chance, with days below a told one. */
+    static String drawn(java.util.Random random, int text, int lastDay) {
+        StringBuilder parts = new StringBuilder();
+        for (int n = random.nextInt(9); n > 0; n--) {
+            if (parts.length() > 0) parts.append(';');
+            parts.append(text == 0 ? "srp".charAt(random.nextInt(3)) : "srpaa".charAt(random.nextInt(5)));
+            parts.append(day(random.nextInt(lastDay)));
+            if (text == 1) parts.append(1 + random.nextInt(9));
+        }
+        return parts.toString();
+    }
+
     static void row(CabbageCradles x, int s, int form, int... items) {
         x.sheet(s, form, items.length);
         for (int i = 0; i < items.length; i++) x.lay(s, form, i, items[i]);

@@ -413,16 +413,18 @@ final class Model {
 
     int ask(int head) {
         if (!in(head, 0, parts(0).size() - 1)) return BAD;
+        List<Year> years = new ArrayList<>();
+        for (int d = 0; d < 30; d++) {
+            Year year = planDue(head, d);
+            if (agrees(year)) years.add(year);
+        }
         int best = NONE;
         int least = 99;
         for (int c = 0; c < parts(1).size(); c++) {
             int greatest = 0;
             for (int h = -1; h < 8; h++) {
                 int n = 0;
-                for (int d = 0; d < 30; d++) {
-                    Year year = planDue(head, d);
-                    if (agrees(year) && year.couples.get(c).head == h) n++;
-                }
+                for (Year year : years) n += year.couples.get(c).head == h ? 1 : 0;
                 greatest = Math.max(greatest, n);
             }
             if (greatest < least) {

@@ -3,7 +3,6 @@ import java.util.Random;
 /** Runs of 512 calls, as many as an object is good for, drawn by a fixed seed, put to the program and the model. */
 public final class ModelTest {
     private static final int RUNS = 300;
-    private static final int CALLS = 512;
     /** Enough for both texts typed anew and a digest, with a look at the latest finding behind each call. */
     private static final int CALLS_TO_END = 230;
     private static final String[] NAMES = {"type", "wipe", "undo", "fault", "head", "couple", "weather", "rabbit",
@@ -14,14 +13,13 @@ public final class ModelTest {
     private final Random random;
     private final Check check;
     private final int run;
-    private int asked = 0;
-    private CabbageCradles program = new CabbageCradles();
-    private Model model = new Model();
+    private final Pair pair;
 
     private ModelTest(int run, Check check) {
         this.run = run;
         this.check = check;
         random = new Random(7919L * run + 13);
+        pair = new Pair("run " + run, check);
     }
 
     public static void main(String[] args) {
@@ -32,15 +30,15 @@ public final class ModelTest {
 
     private void play() {
         int lastDay = random.nextBoolean() ? 7 : 30;
-        typeAll(0, parts(0, lastDay));
-        typeAll(1, parts(1, lastDay));
+        typeAll(0, Fields.drawn(random, 0, lastDay));
+        typeAll(1, Fields.drawn(random, 1, lastDay));
         for (int i = random.nextInt(5); i > 0; i--) call(6, 0, random.nextInt(lastDay));
         for (int i = random.nextInt(4); i > 0; i--) call(6, 1, random.nextInt(lastDay));
         for (int i = random.nextInt(9); i > 0; i--) call(7, random.nextInt(lastDay), random.nextInt(8));
         for (int i = random.nextInt(3); i > 0; i--) seeWhatHappened();
         boolean endsWhole = run % 4 == 0;
-        int most = endsWhole ? CALLS - CALLS_TO_END : CALLS;
-        while (asked < most && check.isClean()) {
+        int most = endsWhole ? Pair.CALLS - CALLS_TO_END : Pair.CALLS;
+        while (pair.asked() < most && check.isClean()) {
             int which = random.nextInt(100) < 3 ? random.nextInt(3) : 3 + random.nextInt(31);
             call(which, number(which, 0), number(which, 1), number(which, 2), number(which, 3), number(which, 4));
             if (random.nextInt(40) == 0) retype(random.nextInt(2), lastDay);
@@ -49,21 +47,9 @@ public final class ModelTest {
         if (endsWhole) endWhole(lastDay);
     }
 
-    private String parts(int text, int lastDay) {
-        StringBuilder parts = new StringBuilder();
-        for (int n = random.nextInt(9); n > 0; n--) {
-            if (parts.length() > 0) parts.append(';');
-            parts.append(text == 0 ? "srp".charAt(random.nextInt(3)) : "srpaa".charAt(random.nextInt(5)));
-            int day = random.nextInt(lastDay);
-            parts.append(day / 10).append(day % 10);
-            if (text == 1) parts.append(1 + random.nextInt(9));
-        }
-        return parts.toString();
-    }
-
     private void retype(int text, int lastDay) {
         call(1, text);
-        typeAll(text, parts(text, lastDay));
+        typeAll(text, Fields.drawn(random, text, lastDay));
     }
 
     /** Texts that random bytes have broken would leave little to digest. */
@@ -80,7 +66,7 @@ public final class ModelTest {
     /** Draws what was seen from what came out, so that it is often so. */
     private void seeWhatHappened() {
         int couple = random.nextInt(8);
-        int head = model.gets(couple, 0);
+        int head = (int) pair.call("gets", couple, 0);
         call(20, couple, head < 0 ? 8 : head);
     }
 
@@ -118,96 +104,7 @@ public final class ModelTest {
     }
 
     private void call(int which, int... given) {
-        if (asked >= CALLS) return;
-        asked++;
-        int[] n = java.util.Arrays.copyOf(given, 5);
-        long want = askModel(NAMES[which], n[0], n[1], n[2], n[3], n[4]);
-        long got = askProgram(NAMES[which], n[0], n[1], n[2], n[3], n[4]);
-        check.due("run " + run + ": " + NAMES[which] + java.util.Arrays.toString(given), want, got);
-        if (asked >= CALLS || random.nextInt(4) > 0) return;
-        asked++;
-        check.due("run " + run + ": count(8) behind " + NAMES[which], model.count(8), program.count(8));
-    }
-
-    private long askModel(String name, int a, int b, int c, int d, int e) {
-        Model x = model;
-        return switch (name) {
-            case "type" -> x.type(a, b);
-            case "wipe" -> x.wipe(a);
-            case "undo" -> x.undo(a);
-            case "fault" -> x.fault(a);
-            case "head" -> x.head(a, b);
-            case "couple" -> x.couple(a, b);
-            case "weather" -> x.weather(a, b);
-            case "rabbit" -> x.rabbit(a, b);
-            case "back" -> x.back(a);
-            case "read" -> x.read(a);
-            case "state" -> x.state(a, b);
-            case "lifted" -> x.lifted(a, b);
-            case "gets" -> x.gets(a, b);
-            case "children" -> x.children(a);
-            case "without" -> x.without();
-            case "turn" -> x.turn(a);
-            case "met" -> x.met();
-            case "keep" -> x.keep(a, b);
-            case "sow" -> x.sow(a, b);
-            case "come" -> x.come(a, b);
-            case "seen" -> x.seen(a, b);
-            case "forget" -> x.forget();
-            case "never" -> x.never();
-            case "was" -> x.was(a, b);
-            case "ask" -> x.ask(a);
-            case "chill" -> x.chill(a, b, c, d);
-            case "year" -> x.year(a, b);
-            case "sheet" -> x.sheet(a, b, c);
-            case "lose" -> x.lose(a);
-            case "lay" -> x.lay(a, b, c, d);
-            case "get" -> x.get(a, b, c);
-            case "copy" -> x.copy(a, b, c, d, e);
-            case "write" -> x.write(a, b);
-            case "count" -> x.count(a);
-            default -> x.digest();
-        };
-    }
-
-    private long askProgram(String name, int a, int b, int c, int d, int e) {
-        CabbageCradles x = program;
-        return switch (name) {
-            case "type" -> x.type(a, b);
-            case "wipe" -> x.wipe(a);
-            case "undo" -> x.undo(a);
-            case "fault" -> x.fault(a);
-            case "head" -> x.head(a, b);
-            case "couple" -> x.couple(a, b);
-            case "weather" -> x.weather(a, b);
-            case "rabbit" -> x.rabbit(a, b);
-            case "back" -> x.back(a);
-            case "read" -> x.read(a);
-            case "state" -> x.state(a, b);
-            case "lifted" -> x.lifted(a, b);
-            case "gets" -> x.gets(a, b);
-            case "children" -> x.children(a);
-            case "without" -> x.without();
-            case "turn" -> x.turn(a);
-            case "met" -> x.met();
-            case "keep" -> x.keep(a, b);
-            case "sow" -> x.sow(a, b);
-            case "come" -> x.come(a, b);
-            case "seen" -> x.seen(a, b);
-            case "forget" -> x.forget();
-            case "never" -> x.never();
-            case "was" -> x.was(a, b);
-            case "ask" -> x.ask(a);
-            case "chill" -> x.chill(a, b, c, d);
-            case "year" -> x.year(a, b);
-            case "sheet" -> x.sheet(a, b, c);
-            case "lose" -> x.lose(a);
-            case "lay" -> x.lay(a, b, c, d);
-            case "get" -> x.get(a, b, c);
-            case "copy" -> x.copy(a, b, c, d, e);
-            case "write" -> x.write(a, b);
-            case "count" -> x.count(a);
-            default -> x.digest();
-        };
+        pair.call(NAMES[which], given);
+        if (random.nextInt(4) == 0) pair.call("count", 8);
     }
 }

@@ -35,6 +35,7 @@ public final class SheetEdgesTest {
         test.digestsThatWrap();
         test.digestsOfFaults();
         test.digestsOfDays();
+        test.digestsOfSights();
         test.check.end();
     }
 
@@ -454,6 +455,20 @@ public final class SheetEdgesTest {
         check.holds("by SEED 7 there are children", x.year(7, 0) > 0 && x.year(7, 1) >= 0);
         digest("by SEED 7 there are children", x);
         digest("some go WITHOUT by SEED 7", Fields.of("r10", "r001;r101;r201;a009;a099;a189;a279"));
+    }
+
+    /** Of each head another row of sorts and of days comes out so, and there is another couple to ask. */
+    private void digestsOfSights() {
+        CabbageCradles x = Fields.of("s04;r05;p06", "s049;a059;p069");
+        x.seen(0, 0);
+        check.holds("SORTS differ", x.was(0, 0) != x.was(1, 0));
+        check.holds("DAYS differ", x.was(0, 1) != x.was(1, 1));
+        digest("what was SEEN", x);
+        x.seen(2, 2);
+        x.rabbit(7, 1);
+        digest("more that was SEEN, and a RABBIT", x);
+        x.seen(1, 8);
+        digest("what never comes out so", x);
     }
 
     private static long digestByRounds(CabbageCradles x) {
