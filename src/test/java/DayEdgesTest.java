@@ -27,6 +27,8 @@ public final class DayEdgesTest {
         test.goingWithout();
         test.turnsByDaysAndNumbers();
         test.turnsByTheOther();
+        test.turnsOfEachPair();
+        test.turnsOfEachThree();
         test.numbersOfQuestions();
         test.check.end();
     }
@@ -344,6 +346,54 @@ public final class DayEdgesTest {
         due("gets one behind it on that DAY", 0, Fields.of("p10;p10", "p101;p092").turn(0));
         due("gets one on a DAY behind", 0, Fields.of("p10;p11", "p101;p093").turn(0));
         due("of a sort that it gets, not that it WANTS", NONE, Fields.of("r10", "a101;s092").turn(0));
+    }
+
+    /** Eight couples, of which those that are not told want what there is not. */
+    private static CabbageCradles among(String heads, int a, String couple, int b, String other) {
+        StringBuilder all = new StringBuilder();
+        for (int c = 0; c < 8; c++) all.append(c == 0 ? "" : ";").append(c == a ? couple : c == b ? other : "s001");
+        return Fields.of(heads, all.toString());
+    }
+
+    private void turnsOfEachPair() {
+        for (int a = 0; a < 8; a++) {
+            for (int b = 0; b < 8; b++) {
+                if (a == b) continue;
+                String pair = "COUPLE " + a + ", and " + b;
+                int who = a < b ? a : NONE;
+                CabbageCradles x = among("p10", a, "p101", b, "p092");
+                due(pair + " FROM an earlier DAY", who, x.turn(0));
+                due(pair + " FROM an earlier DAY", a < b ? 10 : NONE, x.turn(1));
+                due(pair + " which WANTS any", who, among("p10", a, "p101", b, "a092").turn(0));
+                due(pair + " which comes for the last time", who, among("p10", a, "p101", b, "p029").turn(0));
+                due(pair + " which comes no more", NONE, among("p10", a, "p101", b, "p019").turn(0));
+                due(pair + " which WANTS another", NONE, among("p10", a, "p101", b, "r092").turn(0));
+                due(pair + " FROM the same DAY", NONE, among("p10", a, "p101", b, "p102").turn(0));
+                due(pair + " FROM a later DAY", NONE, among("p10", a, "p101", b, "p112").turn(0));
+                due(pair + " which has one", NONE, among("p09;p10", a, "p101", b, "p092").turn(0));
+                due(pair + " which gets one, too", who, among("p10;p10", a, "p101", b, "p092").turn(0));
+                due(pair + " which gets one later", who, among("p10;p11", a, "p101", b, "p093").turn(0));
+            }
+        }
+    }
+
+    /** Two are out of turn, as a third behind them is FROM an earlier day: the first by days, then by numbers. */
+    private void turnsOfEachThree() {
+        for (int a = 0; a < 7; a++) {
+            for (int b = 0; b < 7; b++) {
+                if (a == b) continue;
+                CabbageCradles x = among("p05;p10", a, "p101", b, "p051");
+                for (int k = 0; k < 4; k++) x.undo(1);
+                Fields.type(x, 1, "p049");
+                due("COUPLE " + a + " later than " + b, b, x.turn(0));
+                due("COUPLE " + a + " later than " + b, 5, x.turn(1));
+                x = among("p10;p10", a, "p101", b, "p101");
+                for (int k = 0; k < 4; k++) x.undo(1);
+                Fields.type(x, 1, "p049");
+                due("COUPLES " + a + " and " + b + " on one DAY", Math.min(a, b), x.turn(0));
+                due("COUPLES " + a + " and " + b + " on one DAY", 10, x.turn(1));
+            }
+        }
     }
 
     private void numbersOfQuestions() {
